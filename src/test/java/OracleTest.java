@@ -519,6 +519,23 @@ public final class OracleTest {
         return ideal;
     }
 
+    /** Many terms of the highest degree in each, so that what products come to has terms of their own degree. */
+    private static Ideal dense(int n, int p, int order) {
+        Ideal ideal = new Ideal(p, n, order);
+        int count = Math.min(8, n + number(3));
+        for (int g = 0; g < count; g++) {
+            int degree = n == 1 ? 1 + number(30) : n == 2 ? 2 + number(4) : n == 3 ? 2 + number(2) : 2;
+            Map<Integer, Long> f = new HashMap<>();
+            boolean constant = number(3) != 0;
+            addTerms(ideal, f, degree, 4 + number(30));
+            if (!constant) {
+                f.remove(0);
+            }
+            keep(ideal, f);
+        }
+        return ideal;
+    }
+
     private static Ideal some(int kind, int n, int p, int order) {
         if (kind == 0) {
             return powers(n, p, order, 40);
@@ -529,7 +546,10 @@ public final class OracleTest {
         if (kind == 2) {
             return mixed(n, p, order);
         }
-        return kind == 3 ? anyPolynomials(n, p, order) : atOrigin(n, p, order);
+        if (kind == 3) {
+            return anyPolynomials(n, p, order);
+        }
+        return kind == 4 ? atOrigin(n, p, order) : dense(n, p, order);
     }
 
     private static Set<Integer> degreesFor(Ideal ideal) {
@@ -547,11 +567,11 @@ public final class OracleTest {
     }
 
     public static void main(String[] args) {
-        int rounds = args.length > 0 ? Integer.parseInt(args[0]) : 6;
+        int rounds = args.length > 0 ? Integer.parseInt(args[0]) : 12;
         for (int round = 0; round < rounds; round++) {
             for (int n = 1; n <= 4; n++) {
                 for (int order = 0; order <= 1; order++) {
-                    for (int kind = 0; kind <= 4; kind++) {
+                    for (int kind = 0; kind <= 5; kind++) {
                         Ideal ideal = some(kind, n, PRIMES[number(PRIMES.length)], order);
                         for (int d : degreesFor(ideal)) {
                             check(ideal, d);

@@ -355,6 +355,24 @@ public final class PromiseTest {
         duePolynomial("x - y", r, 1, X, 1, Y, 6);
     }
 
+    /** What is had above d does not count, though HIGHEST leaves room for it. */
+    private static void findsOnlyUpToTheDegree() {
+        RemnantDictionary r = over(7, 2, 0);
+        joined(r, X + Y, 1, 0, -1);
+        joined(r, 2 * X, 1, Y, -1);
+        due("x x and x y at 2", ILLEGAL_STATE, find(r, 2));
+        due("y y - x comes at 3", 3, find(r, 3));
+        dueLeft("three", r, 0, Y, X);
+        duePolynomial("y y y - 1", r, 0, 3 * Y, 1, 0, 6);
+        duePolynomial("x - y y", r, 1, X, 1, 2 * Y, 6);
+        r.field(7, 2, 0);
+        joined(r, 2 * X, 1, 0, -1);
+        joined(r, X + Y, 1, 0, -1);
+        due("x - y is not had at 2", ILLEGAL_STATE, find(r, 2));
+        due("it is at 3", 2, find(r, 3));
+        dueLeft("two", r, 0, Y);
+    }
+
     private static void howManyAreLeft() {
         RemnantDictionary r = over(2, 2, 0);
         joined(r, 5 * X, 1);
@@ -540,6 +558,7 @@ public final class PromiseTest {
         clears();
         findsAndTheirDegrees();
         findsThatFall();
+        findsOnlyUpToTheDegree();
         howManyAreLeft();
         whatIsFoundStays();
         lefts();
