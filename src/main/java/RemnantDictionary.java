@@ -319,6 +319,7 @@ public final class RemnantDictionary {
          */
         final int[] rows = new int[MOST_MONOMIALS * MOST_MONOMIALS];
         private final boolean[] leads = new boolean[MOST_MONOMIALS];
+        /** The ranks that lead, in the order in which they came; each comes once. */
         private final int[] kept = new int[MOST_MONOMIALS];
         private int keptCount;
         private final int[] work = new int[MOST_MONOMIALS];
@@ -354,7 +355,7 @@ public final class RemnantDictionary {
 
         /** Goes on to products with variables until they add nothing, or 1 is there and all is lost. */
         void close() {
-            for (int next = 0; next < keptCount && !has1(); next++) {
+            for (int next = 0; next < MOST_MONOMIALS && next < keptCount && !has1(); next++) {
                 int lead = kept[next];
                 if (monomials.degrees[lead] < limit) {
                     for (int v = 0; v < monomials.variables; v++) {
