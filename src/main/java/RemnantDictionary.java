@@ -389,6 +389,9 @@ public final class RemnantDictionary {
         }
 
         private void keepWork(int lead) {
+            if (keptCount >= MOST_MONOMIALS) {
+                return;
+            }
             int at = lead * MOST_MONOMIALS;
             Arrays.fill(rows, at, at + MOST_MONOMIALS, 0);
             addMultiple(rows, at, work, 0, lead + 1, inverse(work[lead], prime), prime);
@@ -402,7 +405,7 @@ public final class RemnantDictionary {
         }
 
         void pickBasis() {
-            for (int i = 0; i < monomials.count; i++) {
+            for (int i = 0; i < monomials.count && basisCount < MOST_MONOMIALS; i++) {
                 if (leads[i] && !hasLeadThatDivides(monomials.codes[i])) {
                     basis[basisCount] = i;
                     basisCount++;
@@ -554,6 +557,9 @@ public final class RemnantDictionary {
         }
 
         private void insertPair(int pair, long key) {
+            if (pairCount >= MOST_PRODUCTS) {
+                return;
+            }
             int at = pairCount;
             for (; at > 0 && keys[at - 1] > key; at--) {
                 keys[at] = keys[at - 1];
