@@ -759,6 +759,8 @@ public final class BoundaryTest {
         r.due(4).find(4);
         r.monomials(2 * Y, X + Y, 3 * X).due(STATE).find(3);
         r.due(4).find(4);
+        r.monomials(3 * Y, 2 * X + Y, 3 * X).due(STATE).find(4);
+        r.due(7).find(5);
         r.field(7, 3, 0).monomials(2 * X, 2 * Y, 3 * Z, X + Z).due(STATE).find(3);
         r.due(8).find(4);
         r.field(7, 3, 1).monomials(3 * X, 2 * Y, 2 * Z, X + Z).due(STATE).find(3);
@@ -800,13 +802,18 @@ public final class BoundaryTest {
         r.polynomial(0, X, 1, 0, 6);
     }
 
-    /** In the first x x comes with y y, which leads, too; in the second it comes with x y, next below it. */
+    /** First x x comes with y y, which leads, too; at last it comes with x y, next below it. */
     private static void findNoOtherLeads() {
         sentence("Terms", "that has no other monomial that is a leading one of the space");
         Run r = over(7, 2, 0);
         r.generator(1, 2 * X, 1, 2 * Y, 1).generator(2, 2 * Y, 1, 0, -3).due(4).find(2);
         r.due(4).times(0, 2, 0);
         r.polynomial(1, 2 * X, 1, 0, 3);
+        r.clear();
+        r.generator(1, 2 * X, 1, 2 * Y, 1).generator(2, 2 * Y, 1, X, -1).due(4).find(2);
+        r.due(6).times(0, 2, 2);
+        r.polynomial(0, 4 * Y, 1, 2 * Y, 1);
+        r.polynomial(1, X, 1, 2 * Y, 6);
         r.field(2, 2, 0).generator(1, 2 * X, 1, X + Y, 1).generator(2, X + Y, 1, Y, 1);
         r.generator(3, 2 * Y, 1, Y, 1).due(3).find(3);
         r.lefts(0, Y, X);
