@@ -1,7 +1,8 @@
 /**
  * A test of its own for each sentence of the document that names a boundary case: too small, too
  * large, empty, full, a wrap-around, a refused call. Each begins with the place and the words that
- * it stands for, and what is wrong is told with them.
+ * it stands for, and what is wrong is told with them. What stands in brackets there is the test's
+ * own, and so is "changes nothing": the document tells no change for a call that throws.
  */
 public final class BoundaryTest {
     private static final int X = 1 << 24;
