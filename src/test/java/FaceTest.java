@@ -78,7 +78,8 @@ public final class FaceTest {
             due(f.getName(), isNone ? Modifier.PUBLIC : Modifier.PRIVATE, visible);
             due(f.getName() + " is final if static", false, Modifier.isStatic(f.getModifiers()) && !Modifier.isFinal(f.getModifiers()));
         }
-        due("fields", true, c.getDeclaredFields().length > 0);
+        due("NONE is there", 1L, Arrays.stream(c.getFields()).filter(f -> f.toGenericString().equals("public static final int RemnantDictionary.NONE")).count());
+        due("NONE", -1, RemnantDictionary.NONE);
     }
 
     private static void namesInside(Class<?> c, Set<String> publicNames) {
